@@ -641,6 +641,9 @@ public final class PromiseTest {
     due("sneeze(1)", x.sneeze(1), 0);
     due("owed(0, 1)", x.owed(0, 1), 1);
     due("owed(1, 0)", x.owed(1, 0), 0);
+    x.sneeze(1);
+    due("the last one of a debt", x.owed(0, 1), 0);
+    due("nothing new for it", x.owed(1, 0), 0);
     x.lend(0, 1, 98);
     x.sneeze(0);
     due("99 at most", x.owed(0, 1), 99);
@@ -793,6 +796,11 @@ public final class PromiseTest {
     due("all eight", y.ring(-1), 8);
     due("ring(1)", y.ring(1), 3);
     due("ring(7)", y.ring(7), 5);
+    due("clear()", y.clear(), 2);
+    due("count(2)", y.count(2), 0);
+    due("undo()", y.undo(), 3);
+    due("count(2)", y.count(2), 16);
+    due("owed(7, 2)", y.owed(7, 2), 2);
   }
 
   private static void promise28() {
@@ -890,6 +898,8 @@ public final class PromiseTest {
     due("the lowest", y.masks(1), 1);
     inForce(y, "bars if person = 0");
     due("who sneezes, or who blesses: the lowest", y.masks(1), 1);
+    inForce(y, "owes 1");
+    due("one is owed", y.masks(0), 1);
     inForce(y, "owes 0");
     due("nothing is owed", y.masks(0), 0);
     BlessLoan z = new BlessLoan();
@@ -943,6 +953,11 @@ public final class PromiseTest {
     due("one masked", y.can(0), (1 << 25) - 1);
     y.seen(0, 1);
     due("its own sneeze, heard by 1", y.can(0), (1 << 25) - 1 & ~1 & ~(1 << 20));
+    BlessLoan z = new BlessLoan();
+    z.person(0, 0, 1, 0);
+    z.person(24, 0, 0, 0);
+    z.seen(1, 0);
+    due("its own sneeze, heard by 0", z.can(1), 1 | 1 << 1 | 1 << 5);
   }
 
   private static void promise36() {
@@ -964,6 +979,12 @@ public final class PromiseTest {
     y.person(12, 0, 1, 0);
     due("the one sought, too", y.listen(0, 0), 0);
     due("five of 25 are heard by 1", y.listen(0, 1), 20);
+    BlessLoan z = new BlessLoan();
+    z.person(6, 0, 0, 0);
+    z.person(18, 0, 0, 0);
+    z.person(12, 0, 1, 0);
+    due("the lowest of alike ones", z.listen(2, 0), 0);
+    due("five of 25 hear 0", z.listen(2, 1), 20);
   }
 
   private static void promise37() {
@@ -998,6 +1019,8 @@ public final class PromiseTest {
     due("compare(1)", x.compare(1), 18);
     due("compare(-1)", x.compare(-1), 20);
     due("compare(2)", x.compare(2), NONE);
+    BlessLoan y = pair();
+    due("0 blesses 1, 1 blesses 0", y.compare(-1), 16 + 8);
     due("count(12)", x.count(12), 0);
   }
 
@@ -1019,6 +1042,37 @@ public final class PromiseTest {
     x.terms(0, 0);
     inForce(x, "sneezes 10 if minute = 2");
     due("minutes pass on paper", x.hours(7, 60), 2 + sneezesWithoutMinuteTwo());
+    walks();
+  }
+
+  /** Where the draws lead somebody who never sneezes, and what is owed by one who always does. */
+  private static void walks() {
+    for (int seed = 0; seed < 40; seed++) {
+      BlessLoan x = new BlessLoan();
+      x.person(seed % 25, 0, 9, 0);
+      x.person(12, 0, 9, 0);
+      inForce(x, "sneezes 10 * person; owes 1; hears 20");
+      due("sneezes", x.hours(seed, 30), 30);
+      int[] want = walkOf(seed, seed % 25, 12, 30);
+      due("0 goes by seed " + seed, x.drawn(0, 0), want[0]);
+      due("1 goes by seed " + seed, x.drawn(1, 0), want[1]);
+      due("0 blesses 1", x.drawn(0, 1), 30);
+      due("1 owes", x.drawn(1, 2), 30);
+    }
+  }
+
+  private static int[] walkOf(int seed, int one, int other, int minutes) {
+    long s = seed;
+    int[] x = {one % 5, other % 5};
+    int[] y = {one / 5, other / 5};
+    for (int i = 0; i < 2 * minutes; i++) {
+      s = ((s * 1103 + 12345) % 1000003 * 1103 + 12345) % 1000003;
+      int p = i % 2;
+      int way = (int) (s % 4);
+      y[p] = Math.max(0, Math.min(4, y[p] + (way == 0 ? -1 : way == 2 ? 1 : 0)));
+      x[p] = Math.max(0, Math.min(4, x[p] + (way == 1 ? 1 : way == 3 ? -1 : 0)));
+    }
+    return new int[] {5 * y[0] + x[0], 5 * y[1] + x[1]};
   }
 
   /** The same draws by hand for the pair: of dust and cold in all minutes but the one numbered 2. */
