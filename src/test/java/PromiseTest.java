@@ -1,93 +1,5 @@
 /** For each promise of the document ordinary inputs, the edges it names, and wrong inputs. */
-public final class PromiseTest {
-  private static final int NONE = BlessLoan.NONE;
-  private static int wrong = 0;
-  private static String now = "";
-
-  private static void due(String what, long got, long want) {
-    if (got != want) {
-      wrong++;
-      System.out.println(now + ": " + what + " answered " + got + ", due is " + want);
-    }
-  }
-
-  private static void put(BlessLoan x, String text) {
-    x.end(0);
-    for (int i = 0; i < text.length(); i += 20) {
-      int[] five = new int[5];
-      for (int k = 0; k < 20; k++) {
-        int sign = i + k < text.length() ? text.charAt(i + k) : 0;
-        five[k / 4] = five[k / 4] << 8 | sign;
-      }
-      x.feed(five[0], five[1], five[2], five[3], five[4]);
-    }
-    due("end(" + text.length() + ")", x.end(text.length()), text.length());
-  }
-
-  private static int law(BlessLoan x, String text) {
-    put(x, text);
-    return x.law();
-  }
-
-  private static int inForce(BlessLoan x, String text) {
-    int law = law(x, text);
-    x.force(law);
-    return law;
-  }
-
-  private static int orders(BlessLoan x, String text) {
-    put(x, text);
-    return x.orders();
-  }
-
-  private static void faultOfLaw(String text, int at) {
-    BlessLoan x = new BlessLoan();
-    int answer = law(x, text);
-    due("law() of " + text, answer, at == NONE ? 0 : -6);
-    due("fault() of law " + text, x.fault(), at);
-    due("count(6) behind law()", x.count(6), 0);
-  }
-
-  private static void faultOfOrders(String text, int at) {
-    BlessLoan x = new BlessLoan();
-    int answer = orders(x, text);
-    due("orders() of " + text + " read", answer == -6 ? 0 : 1, at == NONE ? 1 : 0);
-    due("fault() of orders " + text, x.fault(), at);
-    due("count(6) behind orders()", x.count(6), 0);
-  }
-
-  /** Four: 0 at 0, 1 at 1, 2 at 6, 3 at 24. */
-  private static BlessLoan four() {
-    BlessLoan x = new BlessLoan();
-    x.person(0, 30, 4, 2);
-    x.person(1, 50, 4, 0);
-    x.person(6, 50, 1, 5);
-    x.person(24, 80, 9, 0);
-    return x;
-  }
-
-  /** Two beside each other who hear each other: 0 at 12, 1 at 13. */
-  private static BlessLoan pair() {
-    BlessLoan x = new BlessLoan();
-    x.person(12, 40, 9, 3);
-    x.person(13, 20, 5, 7);
-    return x;
-  }
-
-  /** The value of a sum by way of "sneezes", which is cut to 0 .. 10. */
-  private static void sum(String sum, int want) {
-    BlessLoan x = pair();
-    x.terms(0, 77);
-    x.terms(1, 6);
-    due("law of " + sum, inForce(x, "sneezes " + sum), 0);
-    due("sneezes " + sum, x.of(1, 5), want);
-  }
-
-  /** Whether a test is so by way of "sneezes 9" for it; 0 without, as the first clause holds. */
-  private static void test(String test, int want) {
-    sum("0; sneezes 9 if " + test, want);
-  }
-
+public final class PromiseTest extends Checks {
   private static void promise1() {
     BlessLoan x = new BlessLoan();
     for (int what = 0; what <= 11; what++) {
@@ -1269,16 +1181,13 @@ public final class PromiseTest {
         PromiseTest::promise39, PromiseTest::promise40, PromiseTest::promise41,
         PromiseTest::promise42, PromiseTest::promise43, PromiseTest::promise44};
     for (int i = 0; i < promises.length; i++) {
-      now = "promise " + (i + 1);
+      of("promise " + (i + 1));
       promises[i].run();
     }
   }
 
   public static void main(String[] args) {
     all();
-    System.out.println(wrong == 0 ? "all promises hold" : wrong + " answers are not as due");
-    if (wrong != 0) {
-      System.exit(1);
-    }
+    close("all promises hold");
   }
 }
