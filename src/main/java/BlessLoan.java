@@ -85,7 +85,6 @@ public final class BlessLoan {
   private int latestFault = NONE;
   private int latestStop = NONE;
   private int latestHiccups = 0;
-  private boolean hoursKept = false;
 
   public BlessLoan() {}
 
@@ -458,12 +457,12 @@ public final class BlessLoan {
     }
     later.become(town);
     judge.look(later);
-    hoursKept = true;
     return fine(new Draws(seed).sneezesIn(later, judge, n));
   }
 
   public int drawn(int k, int what) {
-    if (!hoursKept || !later.has(k)) {
+    // ahead of any hours nobody is there
+    if (!later.has(k)) {
       return NONE;
     }
     switch (what) {
@@ -1777,18 +1776,14 @@ public final class BlessLoan {
       return sum;
     }
 
-    /** The people to mask, as bits. */
+    /** The people to mask, as bits: of the fewest none is masked already, as that would not help. */
     int fewestMasks() {
-      int masked = 0;
       for (int i = 0; i < paper.people; i++) {
-        masked |= paper.masked[i] << i;
         lineUp(i);
       }
-      int all = (1 << paper.people) - 1;
-      int best = all & ~masked;
-      for (int bits = 0; bits <= all; bits++) {
-        boolean fewer = Integer.bitCount(bits) < Integer.bitCount(best);
-        if (fewer && (bits & masked) == 0 && nobodyGains(bits)) {
+      int best = (1 << paper.people) - 1;
+      for (int bits = 0; bits < 1 << paper.people; bits++) {
+        if (Integer.bitCount(bits) < Integer.bitCount(best) && nobodyGains(bits)) {
           best = bits;
         }
       }

@@ -111,6 +111,14 @@ abstract class Checks {
     return x;
   }
 
+  /** Two who hear each other, wherever they are. */
+  static BlessLoan pairIn(int one, int other) {
+    BlessLoan x = new BlessLoan();
+    x.person(one, 40, 9, 3);
+    x.person(other, 20, 9, 7);
+    return x;
+  }
+
   /** Eight in the place 12, alike. */
   static BlessLoan eight() {
     BlessLoan x = new BlessLoan();
@@ -137,5 +145,20 @@ abstract class Checks {
   /** Whether a test is so by way of "sneezes 9" for it; 0 without, as the first clause holds. */
   static void test(String test, int want) {
     sum("0; sneezes 9 if " + test, want);
+  }
+
+  /** What can be told of people, debts, terms, and how many can be undone. */
+  static String townOf(BlessLoan x) {
+    StringBuilder b = new StringBuilder();
+    for (int what : new int[] {0, 1, 2, 3, 4, 5, 12, 13, 14}) {
+      b.append(x.count(what)).append(' ');
+    }
+    for (int i = 0; i < x.count(0); i++) {
+      b.append(x.of(i, 0)).append(':');
+      for (int k = 0; k < x.count(0); k++) {
+        b.append(x.owed(i, k)).append(' ');
+      }
+    }
+    return b.toString();
   }
 }
