@@ -510,6 +510,20 @@ public final class TermsTest extends Checks {
       due("all seven, " + i, x.round(0, i), row[i]);
     }
     due("all seven, 7", x.round(0, 7), NONE);
+    BlessLoan full = new BlessLoan();
+    for (int i = 0; i < 8; i++) {
+      full.person(3 * i, 0, 0, 0);
+    }
+    for (int i = 1; i < 8; i++) {
+      full.lend(i, 0, 99);
+    }
+    due("whom all others owe", full.round(0, NONE), 0);
+    due("whom all others owe", full.round(0, 0), NONE);
+    for (int i = 1; i < 8; i++) {
+      due("one debt of many, steps of " + i, full.round(i, NONE), 3 * i % 5 + 3 * i / 5);
+      due("one debt of many, to whom by " + i, full.round(i, 0), 0);
+      due("one debt of many, no more by " + i, full.round(i, 1), NONE);
+    }
     of("the first as a row of people");
     BlessLoan y = eight();
     for (int i = 7; i > 0; i--) {
