@@ -1292,7 +1292,7 @@ public final class BlessLoan {
       for (int length = 2; length <= town.people; length++) {
         for (int lowest = 0; lowest <= town.people - length; lowest++) {
           row[0] = lowest;
-          if (closes(town, 1, length)) {
+          if (closes(town, row, 1, length)) {
             return length;
           }
         }
@@ -1301,8 +1301,8 @@ public final class BlessLoan {
     }
 
     /** Whether the first people of the row go on to a ring; tried by numbers, the first is found. */
-    private boolean closes(Town town, int known, int length) {
-      if (known < 1 || known > length || length > CROWD) {
+    private static boolean closes(Town town, int[] row, int known, int length) {
+      if (known < 1 || known > length || length > row.length) {
         return false;
       }
       int latest = row[known - 1];
@@ -1310,9 +1310,9 @@ public final class BlessLoan {
         return town.owed[latest * CROWD + row[0]] > 0;
       }
       for (int next = row[0] + 1; next < town.people; next++) {
-        if (town.owed[latest * CROWD + next] > 0 && !isAmong(next, known)) {
+        if (town.owed[latest * CROWD + next] > 0 && !isAmong(row, next, known)) {
           row[known] = next;
-          if (closes(town, known + 1, length)) {
+          if (closes(town, row, known + 1, length)) {
             return true;
           }
         }
@@ -1320,7 +1320,7 @@ public final class BlessLoan {
       return false;
     }
 
-    private boolean isAmong(int person, int known) {
+    private static boolean isAmong(int[] row, int person, int known) {
       for (int i = 0; i < known; i++) {
         if (row[i] == person) {
           return true;
@@ -1590,6 +1590,7 @@ public final class BlessLoan {
   private static final class Planner {
     static final int ROUNDS = 50;
     static final int SETS = 128;
+    static final int FAR_OFF = 1000000;
     static final long WHOLE = 1000000000000L;
 
     final Town paper = new Town();
@@ -1732,7 +1733,7 @@ public final class BlessLoan {
 
     /** From one of the lenders (or the person itself) through all of a set, by smaller sets. */
     private int fewestSteps(int set, int from) {
-      int fewest = set == 0 ? 0 : Integer.MAX_VALUE;
+      int fewest = set == 0 ? 0 : FAR_OFF;
       for (int i = 0; i < stops; i++) {
         if ((set >> i & 1) == 1) {
           fewest = Math.min(fewest, stepsBy(set, from, i));

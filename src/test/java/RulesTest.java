@@ -2,6 +2,8 @@ import com.sun.source.tree.BinaryTree;
 import com.sun.source.tree.ClassTree;
 import com.sun.source.tree.CompilationUnitTree;
 import com.sun.source.tree.ImportTree;
+import com.sun.source.tree.LiteralTree;
+import com.sun.source.tree.MemberSelectTree;
 import com.sun.source.tree.MethodInvocationTree;
 import com.sun.source.tree.MethodTree;
 import com.sun.source.tree.NewClassTree;
@@ -157,6 +159,25 @@ public final class RulesTest {
     }
 
     @Override
+    public Void visitLiteral(LiteralTree tree, Void v) {
+      if (tree.getValue() instanceof String text) {
+        rule(4, "a sign of " + tree, text.chars().allMatch(sign -> sign >= 1 && sign <= 127));
+      }
+      return super.visitLiteral(tree, v);
+    }
+
+    /** Of the library's fields an array's length alone is there. */
+    @Override
+    public Void visitMemberSelect(MemberSelectTree tree, Void v) {
+      Element e = element();
+      boolean others = e != null && e.getKind() == ElementKind.FIELD
+          && !e.getSimpleName().contentEquals("length")
+          && !e.getEnclosingElement().toString().startsWith("BlessLoan");
+      rule(4, tree + " is not in the library", !others);
+      return super.visitMemberSelect(tree, v);
+    }
+
+    @Override
     public Void visitNewClass(NewClassTree tree, Void v) {
       rule(2, "a class without a name", tree.getClassBody() == null);
       note();
@@ -224,6 +245,17 @@ public final class RulesTest {
     return deepest + 1;
   }
 
+  private static void recursion(Map<Element, Set<Element>> calls) {
+    for (Element method : calls.keySet()) {
+      Set<Modifier> modifiers = method.getModifiers();
+      rule(8, method + " calls itself and is not private and static",
+          !calls.get(method).contains(method)
+              || modifiers.contains(Modifier.PRIVATE) && modifiers.contains(Modifier.STATIC));
+      rule(8, method + " is called again by whom it calls and is not private",
+          !reaches(calls, method, method) || modifiers.contains(Modifier.PRIVATE));
+    }
+  }
+
   private static Set<String> namesOf(String face) {
     Set<String> names = new TreeSet<>();
     Matcher m = Pattern.compile("public (?:int |long )?(\\w+)\\(").matcher(face);
@@ -258,6 +290,7 @@ public final class RulesTest {
       rule(1, name + " bears a public name", name.equals("<init>") || !face.contains(name));
     }
     rule(11, scan.classes + " classes", scan.classes <= CLASSES);
+    recursion(scan.calls);
     Map<Element, Integer> known = new HashMap<>();
     int deepest = 0;
     for (Element method : scan.calls.keySet()) {
